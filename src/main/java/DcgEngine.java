@@ -225,10 +225,10 @@ public final class DcgEngine {
             return false;
         }
         int nullable = nullableSet();
-        int reached = leftEdges(1 << nt, nullable);
+        int reached = leftTargets(1 << nt, nullable);
         // A shortest way back has at most one edge for each nonterminal, and one is taken above.
         for (int edges = 1; edges < NONTERMINALS; edges++) {
-            reached |= leftEdges(reached, nullable);
+            reached |= leftTargets(reached, nullable);
         }
         return (reached >> nt & 1) == 1;
     }
@@ -299,18 +299,17 @@ public final class DcgEngine {
         return itemKind[cell] == ITEM_NONTERMINAL && (nullable >> itemSymbol[cell] & 1) == 1;
     }
 
-    /** The nonterminals that one edge leads to from a member of the set sources. */
-    private int leftEdges(int sources, int nullable) {
+    private int leftTargets(int sources, int nullable) {
         int targets = 0;
         for (int r = 0; r < ruleTotal; r++) {
             if ((sources >> headNonterminal[r] & 1) == 1) {
-                targets |= leftEdgesOfRule(r, nullable);
+                targets |= leftTargetsOfRule(r, nullable);
             }
         }
         return targets;
     }
 
-    private int leftEdgesOfRule(int r, int nullable) {
+    private int leftTargetsOfRule(int r, int nullable) {
         int targets = 0;
         boolean allNullableBefore = true;
         for (int k = 0; k < bodyLength[r]; k++) {
@@ -333,7 +332,6 @@ public final class DcgEngine {
         return (nt * VALUES + v) * POSITIONS + from;
     }
 
-    /** Fills spanEnds with the least relation, growing it from the empty one until it is closed. */
     private void deriveSpans() {
         // No query reads the relation before the next compile, which derives it anew.
         if (!compiled) {
@@ -342,13 +340,13 @@ public final class DcgEngine {
         for (int cell = 0; cell < SPAN_CELLS; cell++) {
             spanEnds[cell] = 0;
         }
+        // What grows from the empty relation until the rules add nothing more is the least one.
         boolean grown = true;
         for (int sweep = 0; sweep < MAX_SWEEPS && grown; sweep++) {
             grown = growSpans();
         }
     }
 
-    /** Adds what every rule derives from the relation so far; tells whether anything was new. */
     private boolean growSpans() {
         boolean grown = false;
         // Spans rest on spans that start no earlier: going from the last start needs few sweeps.
@@ -365,7 +363,6 @@ public final class DcgEngine {
         return grown;
     }
 
-    /** The ends of the spans from a start that rule r derives at the top with head value v. */
     private int ruleEnds(int r, int v, int from) {
         int ends = 0;
         for (int x0 = 0; x0 < VALUES; x0++) {
@@ -378,7 +375,8 @@ public final class DcgEngine {
         return ends;
     }
 
-    /** The ends that some alternative of rule r reaches from a start with X0 = x0 and X1 = x1. */
+    // All alternatives may share the assignment here: ruleEnds tries every one that fits the head,
+    // so each alternative still meets each of its own.
     private int bodyEnds(int r, int x0, int x1, int from) {
         int ends = 0;
         int places = 1 << from;

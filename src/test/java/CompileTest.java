@@ -31,12 +31,19 @@ public final class CompileTest {
         cycle(0b111111, "0x: 1x", "1x: 2x", "2x: 3x", "3x: 4x", "4x: 5x", "5x: 0x");
         cycle(0b111111, "5x: 4x", "4x: 3x", "3x: 2x", "2x: 1x", "1x: 0x", "0x: 5x");
         cycle(0b000000, "0x: 1x", "1x: 2x", "2x: 3x", "3x: 4x", "4x: 5x", "5x: 'a 0x");
+        cycle(0b011111, "0x: 1x", "1x: 2x", "2x: 3x", "3x: 4x", "4x: 0x");
+        cycle(0b111100, "0x: 1x", "1x: 2x", "2x: 3x", "3x: 4x", "4x: 5x", "5x: 2x");
+        cycle(0b111000, "0x: 1x", "1x: 2x", "2x: 3x", "3x: 4x", "4x: 5x", "5x: 3x");
+        for (int nt = 0; nt < 6; nt++) {
+            cycle(1 << nt, nt + "x: 'a | " + nt + "x");
+        }
         cycle(0b110011, "0x: 1x", "1x: 0x", "4x: 5x", "5x: 4x", "2x: 0x", "3x: 4x");
     }
 
     private static void nullableBefore() {
         cycle(0b000001, "0x: 1x 0x", "1x:");
         cycle(0b000000, "0x: 1x 0x", "1x: 'a");
+        cycle(0b000000, "1x: 0x 1x", "0x: 'a");
         // No rule, so nothing is nullable there.
         cycle(0b000000, "0x: 1x 0x");
         cycle(0b000001, "0x: 1x 0x", "1x: 'a |");
@@ -96,6 +103,36 @@ public final class CompileTest {
         }
     }
 
+    private static void oldItemsDoNotCount() {
+        DcgEngine x = Build.grammar("0x: 0x 0x", "1x: 1x |");
+        check.due("both", x.onLeftCycle(0) && x.onLeftCycle(1), true);
+        x.removeLastRule();
+        x.removeLastRule();
+        check.due("no rules", x.onLeftCycle(0) || x.onLeftCycle(1), false);
+        Build.openRule(x, "0x:");
+        check.due("an empty body over the old items", x.onLeftCycle(0), false);
+        Build.item(x, "'a");
+        check.due("a token over the old items", x.onLeftCycle(0), false);
+        x.endRule();
+        check.due("compile", x.compile(), DcgEngine.COMPILE_OK);
+    }
+
+    private static void fullGrammar() {
+        DcgEngine x = new DcgEngine(12, 8);
+        for (int r = 0; r < 12; r++) {
+            Build.openRule(x, r % 6 + "x: | 'a 0x 1x | " + r % 6 + "x");
+            if (r < 11) {
+                x.endRule();
+            }
+        }
+        for (int nt = 0; nt < 6; nt++) {
+            check.due("full and open: onLeftCycle(" + nt + ")", x.onLeftCycle(nt), true);
+        }
+        check.due("full and open", x.compile(), DcgEngine.COMPILE_RULE_OPEN);
+        x.endRule();
+        check.due("full", x.compile(), DcgEngine.COMPILE_LEFT_RECURSIVE);
+    }
+
     private static void order() {
         DcgEngine x = new DcgEngine(12, 8);
         int[] fresh = Check.state(x);
@@ -150,6 +187,8 @@ public final class CompileTest {
         nullableBefore();
         argumentsPlayNoPart();
         openRuleCounts();
+        oldItemsDoNotCount();
+        fullGrammar();
         order();
         compiledFlag();
         check.finish();

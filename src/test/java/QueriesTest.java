@@ -87,6 +87,42 @@ public final class QueriesTest {
         }
     }
 
+    private static void alternatives() {
+        DcgEngine x = Build.compiled("0x: 'a | 'b | 'c 'c", "1x: | 'a | 'a 'a", "2x: 1x 'a 'b |", "3x: 'a 'a |", "3x: 1x");
+        Build.tokens(x, "aaab");
+        ends(x, 0, 0, 0, 1 << 1);
+        ends(x, 0, 0, 3, 1 << 4);
+        ends(x, 1, 0, 0, 1 | 1 << 1 | 1 << 2);
+        ends(x, 2, 0, 0, 1 | 1 << 4);
+        ends(x, 2, 0, 1, 1 << 1 | 1 << 4);
+        ends(x, 3, 0, 1, 1 << 1 | 1 << 2 | 1 << 3);
+        Build.tokens(x, "cca");
+        ends(x, 0, 3, 0, 1 << 2);
+        ends(x, 0, 3, 1, 0);
+        ends(x, 0, 3, 2, 1 << 3);
+        // One token item goes on from every place that is reached.
+        DcgEngine many = Build.compiled("0x: 1x 'a", "1x: 'a 1x |");
+        Build.tokens(many, "aaaa");
+        ends(many, 0, 1, 0, 1 << 1 | 1 << 2 | 1 << 3 | 1 << 4);
+        ends(many, 0, 1, 2, 1 << 3 | 1 << 4);
+    }
+
+    private static void fullGrammar() {
+        DcgEngine x = new DcgEngine(12, 8);
+        for (int r = 0; r < 12; r++) {
+            Build.openRule(x, r % 6 + "x: 'a 'a 'a 'a 'a " + (r == 11 ? "0x" : "'a"));
+            x.endRule();
+        }
+        Build.tokens(x, "aaaaaaaa");
+        check.due("full", x.compile(), DcgEngine.COMPILE_OK);
+        for (int nt = 0; nt < 6; nt++) {
+            ends(x, nt, 3, 0, 1 << 6);
+            ends(x, nt, 3, 2, 1 << 8);
+            ends(x, nt, 3, 3, 0);
+            check.due("least of two", x.firstRule(nt, 3, 1, 7), nt);
+        }
+    }
+
     private static void emptySpans() {
         DcgEngine x = Build.compiled("01:", "1x: 0x", "2x: 'a |", "3x: 'a | 'b", "4x: | | 'a 'a");
         check.due("empty string", x.answerMask(0), 2);
@@ -121,6 +157,20 @@ public final class QueriesTest {
         Build.tokens(x, "bbb");
         ends(x, 4, 0, 0, 1 << 2);
         ends(x, 4, 1, 0, 1 << 3);
+        // A variable has the values 0..3 only, and each of them.
+        DcgEngine four = Build.compiled("0x: 'a 1x", "2y: 'a 1y", "00: 'b 4x", "20: 'b 4y", "1x: 'c", "50: 'd");
+        Build.tokens(four, "ac");
+        check.due("X0", four.answerMask(0), 15);
+        check.due("X1", four.answerMask(2), 15);
+        Build.tokens(four, "bd");
+        check.due("X0 without a rule", four.answerMask(0), 0);
+        check.due("X1 without a rule", four.answerMask(2), 0);
+        for (int v = 0; v < 4; v++) {
+            DcgEngine one = Build.compiled("00: 1x 'b", "20: 1y 'b", "1" + v + ": 'a");
+            Build.tokens(one, "ab");
+            check.due("X0 = " + v, one.answerMask(0), 1);
+            check.due("X1 = " + v, one.answerMask(2), 1);
+        }
         // A variable that stands in the head of a rule with an empty body takes every value.
         DcgEngine free = Build.compiled("0x:", "1y:", "23:");
         check.due("head X0", free.answerMask(0), 15);
@@ -204,6 +254,8 @@ public final class QueriesTest {
         refusedArguments();
         refusedUncompiled();
         terminals();
+        alternatives();
+        fullGrammar();
         emptySpans();
         variables();
         freshForEachAlternative();
