@@ -1,5 +1,5 @@
 /**
- * Writes grammars short. A rule is "0X: 1Y 'c 2a | 0x": a head, a colon, and items; a nonterminal
+ * Writes grammars short. A rule is "0x: 1y 'c 23 | 0x": a head, a colon, and items; a nonterminal
  * is its digit and an argument (0..3, x for X0, y for X1), a token is a quote and its number in
  * hexadecimal.
  */
