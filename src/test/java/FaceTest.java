@@ -6,7 +6,7 @@ import java.util.Set;
 import java.util.TreeSet;
 
 /** "The public face": the class shows the document's members, and no other. */
-public final class FaceTest {
+public final class FaceTest extends Check {
     private static final String[] CONSTANTS = {
         "NONTERMINALS=6", "VALUES=4", "TOKENS=16", "MAX_RULES=12", "MAX_TOKENS=8", "MAX_BODY=6",
         "ARG_X0=4", "ARG_X1=5", "ITEM_TERMINAL=0", "ITEM_NONTERMINAL=1", "ITEM_BAR=2",
@@ -56,28 +56,39 @@ public final class FaceTest {
         return shown;
     }
 
-    private static void sameSets(Check check, String what, Set<String> got, String[] want) {
+    private static void sameSets(String what, Set<String> got, String[] want) {
         Set<String> due = new TreeSet<>(Set.of(want));
         if (!got.equals(due)) {
             System.out.println("  shown: " + got);
             System.out.println("  due:   " + due);
         }
-        check.due(what, got.equals(due), true);
+        due(what, got.equals(due), true);
     }
 
-    public static void main(String[] args) throws IllegalAccessException {
-        Check check = new Check();
+    static void publicAndFinal() {
         int marks = DcgEngine.class.getModifiers();
-        check.due("public class", Modifier.isPublic(marks), true);
-        check.due("final class", Modifier.isFinal(marks), true);
-        check.due("nested classes", DcgEngine.class.getDeclaredClasses().length, 0);
-        sameSets(check, "constants", shownFields(), CONSTANTS);
-        sameSets(check, "methods", shownMethods(), METHODS);
-        Set<String> constructors = new TreeSet<>();
+        due("public class", Modifier.isPublic(marks), true);
+        due("final class", Modifier.isFinal(marks), true);
+        due("nested classes", DcgEngine.class.getDeclaredClasses().length, 0);
+    }
+
+    static void constants() throws IllegalAccessException {
+        sameSets("constants", shownFields(), CONSTANTS);
+    }
+
+    static void methods() {
+        sameSets("methods", shownMethods(), METHODS);
+    }
+
+    static void constructors() {
+        Set<String> shown = new TreeSet<>();
         for (Constructor<?> made : DcgEngine.class.getDeclaredConstructors()) {
-            constructors.add(Modifier.toString(made.getModifiers()) + parameters(made.getParameterTypes()));
+            shown.add(Modifier.toString(made.getModifiers()) + parameters(made.getParameterTypes()));
         }
-        sameSets(check, "constructors", constructors, new String[] {"public(int,int)"});
-        check.finish();
+        sameSets("constructors", shown, new String[] {"public(int,int)"});
+    }
+
+    public static void main(String[] args) {
+        run(FaceTest.class);
     }
 }

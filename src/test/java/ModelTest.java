@@ -1,10 +1,8 @@
 /** All promises: long runs of mixed calls on the program and on the model must answer alike. */
-public final class ModelTest {
+public final class ModelTest extends Check {
     private static final int WILD_RUNS = 400;
     private static final int WILD_CALLS = 120;
     private static final int GRAMMARS = 3000;
-
-    private static final Check check = new Check();
 
     // A fixed sequence, so that every run of the test makes the same calls.
     private static long seed = 20261115L;
@@ -38,7 +36,7 @@ public final class ModelTest {
             case 2:
                 a = loose(6);
                 b = loose(6);
-                check.due(run + "beginRule(" + a + ", " + b + ")", x.beginRule(a, b), m.beginRule(a, b));
+                due(run + "beginRule(" + a + ", " + b + ")", x.beginRule(a, b), m.beginRule(a, b));
                 break;
             case 3:
             case 4:
@@ -47,24 +45,24 @@ public final class ModelTest {
                 a = loose(3);
                 b = a == 0 ? loose(pick(4) == 0 ? 16 : 3) : loose(6);
                 c = loose(6);
-                check.due(run + "addItem(" + a + ", " + b + ", " + c + ")", x.addItem(a, b, c), m.addItem(a, b, c));
+                due(run + "addItem(" + a + ", " + b + ", " + c + ")", x.addItem(a, b, c), m.addItem(a, b, c));
                 break;
             case 7:
             case 8:
-                check.due(run + "endRule()", x.endRule(), m.endRule());
+                due(run + "endRule()", x.endRule(), m.endRule());
                 break;
             case 9:
-                check.due(run + "removeLastRule()", x.removeLastRule(), m.removeLastRule());
+                due(run + "removeLastRule()", x.removeLastRule(), m.removeLastRule());
                 break;
             case 10:
             case 11:
-                check.due(run + "compile()", x.compile(), m.compile());
+                due(run + "compile()", x.compile(), m.compile());
                 break;
             case 12:
             case 13:
             case 14:
                 a = loose(pick(4) == 0 ? 16 : 3);
-                check.due(run + "addToken(" + a + ")", x.addToken(a), m.addToken(a));
+                due(run + "addToken(" + a + ")", x.addToken(a), m.addToken(a));
                 break;
             default:
                 if (pick(4) == 0) {
@@ -77,32 +75,32 @@ public final class ModelTest {
 
     private static void sameReading(DcgEngine x, Model m, String run) {
         for (int r = -1; r <= 12; r++) {
-            check.due(run + "ruleHead(" + r + ")", x.ruleHead(r), m.ruleHead(r));
+            due(run + "ruleHead(" + r + ")", x.ruleHead(r), m.ruleHead(r));
             for (int k = -1; k <= 6; k++) {
-                check.due(run + "item(" + r + ", " + k + ")", x.item(r, k), m.item(r, k));
+                due(run + "item(" + r + ", " + k + ")", x.item(r, k), m.item(r, k));
             }
         }
-        check.due(run + "tokenCount()", x.tokenCount(), m.tokenCount());
+        due(run + "tokenCount()", x.tokenCount(), m.tokenCount());
         for (int i = -1; i <= 8; i++) {
-            check.due(run + "token(" + i + ")", x.token(i), m.token(i));
+            due(run + "token(" + i + ")", x.token(i), m.token(i));
         }
         for (int nt = -1; nt <= 6; nt++) {
-            check.due(run + "onLeftCycle(" + nt + ")", x.onLeftCycle(nt), m.onLeftCycle(nt));
+            due(run + "onLeftCycle(" + nt + ")", x.onLeftCycle(nt), m.onLeftCycle(nt));
         }
     }
 
     private static void sameDerivations(DcgEngine x, Model m, String run) {
         int n = m.tokenCount();
         for (int nt = -1; nt <= 6; nt++) {
-            check.due(run + "answerMask(" + nt + ")", x.answerMask(nt), m.answerMask(nt));
+            due(run + "answerMask(" + nt + ")", x.answerMask(nt), m.answerMask(nt));
             for (int v = -1; v <= 4; v++) {
                 for (int from = -1; from <= n + 1; from++) {
                     String start = "(" + nt + ", " + v + ", " + from;
-                    check.due(run + "endMask" + start, x.endMask(nt, v, from), m.endMask(nt, v, from));
+                    due(run + "endMask" + start, x.endMask(nt, v, from), m.endMask(nt, v, from));
                     for (int to = -1; to <= n + 1; to++) {
                         String span = start + ", " + to + ")";
-                        check.due(run + "prove" + span, x.prove(nt, v, from, to), m.prove(nt, v, from, to));
-                        check.due(run + "firstRule" + span, x.firstRule(nt, v, from, to), m.firstRule(nt, v, from, to));
+                        due(run + "prove" + span, x.prove(nt, v, from, to), m.prove(nt, v, from, to));
+                        due(run + "firstRule" + span, x.firstRule(nt, v, from, to), m.firstRule(nt, v, from, to));
                     }
                 }
             }
@@ -153,12 +151,12 @@ public final class ModelTest {
             rule(x, m);
         }
         int answer = x.compile();
-        check.due(run + "compile()", answer, m.compile());
+        due(run + "compile()", answer, m.compile());
         for (int string = 0; string < 2; string++) {
             int tokens = pick(9);
             for (int i = 0; i < tokens; i++) {
                 int tok = pick(2);
-                check.due(run + "addToken(" + tok + ")", x.addToken(tok), m.addToken(tok));
+                due(run + "addToken(" + tok + ")", x.addToken(tok), m.addToken(tok));
             }
             sameDerivations(x, m, run);
             if (pick(2) == 0) {
@@ -170,18 +168,24 @@ public final class ModelTest {
         return answer == DcgEngine.COMPILE_OK;
     }
 
-    public static void main(String[] args) {
+    static void wildRuns() {
         for (int run = 0; run < WILD_RUNS; run++) {
             wildRun(run);
         }
+    }
+
+    static void grammars() {
         int compiled = 0;
         for (int run = 0; run < GRAMMARS; run++) {
             compiled += grammarRun(run) ? 1 : 0;
         }
         // Else the runs would show little of the derivations.
-        check.due("a third of the grammars compile", compiled * 3 >= GRAMMARS, true);
-        check.due("some grammars do not compile", compiled < GRAMMARS, true);
+        due("a third of the grammars compile", compiled * 3 >= GRAMMARS, true);
+        due("some grammars do not compile", compiled < GRAMMARS, true);
         System.out.println("  " + compiled + " of " + GRAMMARS + " grammars compiled");
-        check.finish();
+    }
+
+    public static void main(String[] args) {
+        run(ModelTest.class);
     }
 }
