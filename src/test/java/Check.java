@@ -160,19 +160,19 @@ abstract class Check {
         return told;
     }
 
-    /** The answers of prove, answerMask, endMask and firstRule for the current token string. */
+    /** The derivations for the current token string: all of them by endMask, some by the other queries. */
     static int[] derivations(DcgEngine x) {
-        int[] told = new int[3000];
+        int[] told = new int[1000];
         int n = 0;
         for (int nt = 0; nt < DcgEngine.NONTERMINALS; nt++) {
             told[n++] = x.answerMask(nt);
-            for (int v = 0; v < DcgEngine.VALUES; v++) {
-                for (int from = 0; from <= x.tokenCount(); from++) {
+            for (int from = 0; from <= x.tokenCount(); from++) {
+                for (int v = 0; v < DcgEngine.VALUES; v++) {
                     told[n++] = x.endMask(nt, v, from);
-                    for (int to = from; to <= x.tokenCount(); to++) {
-                        told[n++] = x.prove(nt, v, from, to);
-                        told[n++] = x.firstRule(nt, v, from, to);
-                    }
+                }
+                for (int to = from; to <= x.tokenCount(); to++) {
+                    told[n++] = x.prove(nt, (nt + to) % 4, from, to);
+                    told[n++] = x.firstRule(nt, (nt + to) % 4, from, to);
                 }
             }
         }

@@ -18,11 +18,12 @@ public final class Promise02Test extends Check {
     static void refusedWhileARuleIsOpen() {
         for (String rule : new String[] {"0x:", "0x: 1x", "5y: 'a | 'b | 0x"}) {
             DcgEngine first = Build.grammar();
+            Build.tokens(first, "01234567");
             Build.openRule(first, rule);
             refusedBegin(first, 0, 0);
             refusedBegin(first, 5, 5);
             DcgEngine later = Build.compiled("1x: 'a");
-            Build.tokens(later, "ab");
+            Build.tokens(later, "abcdefab");
             Build.openRule(later, rule);
             refusedBegin(later, 2, 0);
             due("the open rule still takes items", later.addItem(2, 0, 0) && later.endRule(), true);
@@ -36,7 +37,8 @@ public final class Promise02Test extends Check {
             DcgEngine x = withRules(cap);
             refusedBegin(x, 0, 0);
             refusedBegin(x, 5, 5);
-            x.addToken(0);
+            Build.tokens(x, "01234567");
+            refusedBegin(x, 0, 0);
             due("compile()", x.compile(), DcgEngine.COMPILE_OK);
             refusedBegin(x, 0, 0);
             due("still derives", x.prove(0, 0, 0, 1), DcgEngine.YES);
@@ -63,7 +65,8 @@ public final class Promise02Test extends Check {
         for (int nt : ODD_NUMBERS) {
             for (int arg = 0; arg <= 5 && !isIn(nt, 0, 5); arg++) {
                 DcgEngine x = Build.compiled("0x: 'a");
-                Build.tokens(x, "a");
+                refusedBegin(x, nt, arg);
+                Build.tokens(x, "aaaaaaaa");
                 refusedBegin(x, nt, arg);
                 refusedBegin(new DcgEngine(1, 1), nt, arg);
             }
@@ -75,7 +78,8 @@ public final class Promise02Test extends Check {
         for (int arg : ODD_NUMBERS) {
             for (int nt = 0; nt <= 5 && !isIn(arg, 0, 5); nt++) {
                 DcgEngine x = Build.compiled("0x: 'a");
-                Build.tokens(x, "a");
+                refusedBegin(x, nt, arg);
+                Build.tokens(x, "aaaaaaaa");
                 refusedBegin(x, nt, arg);
                 refusedBegin(new DcgEngine(1, 1), nt, arg);
             }

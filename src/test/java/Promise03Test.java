@@ -10,7 +10,7 @@ public final class Promise03Test extends Check {
     private static DcgEngine withOpenRule() {
         DcgEngine x = Build.grammar("2y: 'a");
         Build.openRule(x, "0x: 'b");
-        Build.tokens(x, "cd");
+        Build.tokens(x, "cdcdcdcd");
         return x;
     }
 
@@ -52,7 +52,7 @@ public final class Promise03Test extends Check {
     /** "1. no rule is open;" */
     static void refusedWhileNoRuleIsOpen() {
         DcgEngine closed = Build.compiled("0x: 'a");
-        Build.tokens(closed, "a");
+        Build.tokens(closed, "aaaaaaaa");
         DcgEngine removed = Build.grammar("0x: 'a");
         Build.openRule(removed, "1x: 'a");
         removed.removeLastRule();
@@ -73,6 +73,7 @@ public final class Promise03Test extends Check {
         for (int[] sixth : GOOD_ITEMS) {
             DcgEngine x = Build.grammar("1x: 'a");
             Build.openRule(x, "0x: | | 'a 0x |");
+            Build.tokens(x, "01234567");
             due("sixth item", x.addItem(sixth[0], sixth[1], sixth[2]), true);
             due("body length", bodyLength(x, 1), 6);
             for (int[] seventh : GOOD_ITEMS) {
@@ -182,7 +183,7 @@ public final class Promise03Test extends Check {
     /** "The rule stays open; other rules, the head, COMPILED and the tokens do not change." */
     static void nothingElseChanges() {
         DcgEngine x = Build.compiled("2y: 'a 'b |", "3x: 2x");
-        Build.tokens(x, "cd");
+        Build.tokens(x, "cdcdcdcd");
         Build.openRule(x, "0x:");
         int[] string = tokens(x);
         for (int k = 0; k < 6; k++) {

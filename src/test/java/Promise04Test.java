@@ -8,13 +8,13 @@ public final class Promise04Test extends Check {
     static void refusedWhileNoRuleIsOpen() {
         refusedEnd(new DcgEngine(12, 8));
         DcgEngine stringAlone = new DcgEngine(1, 8);
-        Build.tokens(stringAlone, "abc");
+        Build.tokens(stringAlone, "abcabcab");
         refusedEnd(stringAlone);
         DcgEngine closed = Build.grammar("0x: 'a", "1x:");
         refusedEnd(closed);
         refusedEnd(closed);
         DcgEngine compiled = Build.compiled("0x: 'a", "1x:");
-        Build.tokens(compiled, "a");
+        Build.tokens(compiled, "aaaaaaaa");
         refusedEnd(compiled);
         due("still compiled", compiled.prove(0, 0, 0, 1), DcgEngine.YES);
         DcgEngine recursive = Build.grammar("0x: 0x");
@@ -47,7 +47,7 @@ public final class Promise04Test extends Check {
     /** "The rule keeps its index, head and body; the rule count, COMPILED and the tokens do not change." */
     static void nothingElseChanges() {
         DcgEngine x = Build.compiled("5y: 'f 0y |", "0x:");
-        Build.tokens(x, "12");
+        Build.tokens(x, "12345678");
         Build.openRule(x, "4x: 'a 'b | 1x 23 |");
         int[] before = rules(x);
         int[] string = tokens(x);

@@ -128,6 +128,24 @@ public final class Promise05Test extends Check {
         due("no cycle", leftCycles(x), 0);
     }
 
+    /** "Otherwise the rule is gone": whatever it derived, at every place of the longest string. */
+    static void removedRuleLeavesNoSpan() {
+        for (int nt = 0; nt <= 5; nt++) {
+            DcgEngine x = Build.compiled((nt + 1) % 6 + "x: 'b", nt + "x: 'a " + nt + "x |");
+            Build.tokens(x, "aaaaaaaa");
+            for (int from = 0; from <= 8; from++) {
+                due("before, from " + from, x.endMask(nt, 3, from), 511 >> from << from);
+            }
+            x.removeLastRule();
+            x.compile();
+            for (int v = 0; v <= 3; v++) {
+                for (int from = 0; from <= 8; from++) {
+                    due("after, from " + from, x.endMask(nt, v, from), 0);
+                }
+            }
+        }
+    }
+
     public static void main(String[] args) {
         run(Promise05Test.class);
     }

@@ -13,7 +13,7 @@ public final class Promise06Test extends Check {
             Build.openRule(alone, rule);
             refusedCompile(alone, DcgEngine.COMPILE_RULE_OPEN);
             DcgEngine x = Build.compiled("2x: 'a", "3x:");
-            Build.tokens(x, "ab");
+            Build.tokens(x, "abababab");
             Build.openRule(x, rule);
             refusedCompile(x, DcgEngine.COMPILE_RULE_OPEN);
             due("the rule is still open", x.endRule(), true);
@@ -53,7 +53,8 @@ public final class Promise06Test extends Check {
     static void refusedForALeftCycle() {
         for (int nt = 0; nt <= 5; nt++) {
             DcgEngine x = Build.grammar(nt + "x: 'a | " + nt + "x 'b");
-            Build.tokens(x, "ab");
+            refusedCompile(x, DcgEngine.COMPILE_LEFT_RECURSIVE);
+            Build.tokens(x, "abababab");
             refusedCompile(x, DcgEngine.COMPILE_LEFT_RECURSIVE);
             DcgEngine two = Build.grammar(nt + "x: " + (nt + 1) % 6 + "x", (nt + 1) % 6 + "x: " + nt + "x 'b");
             refusedCompile(two, DcgEngine.COMPILE_LEFT_RECURSIVE);
@@ -124,7 +125,7 @@ public final class Promise06Test extends Check {
     /** "A repeated compile with nothing changed in between gives the same answer as before" */
     static void repeatedCompileAnswersAlike() {
         DcgEngine x = Build.compiled("0x: 'a 0x |", "1x: 0x");
-        Build.tokens(x, "aab");
+        Build.tokens(x, "aabaabaa");
         int[] before = everything(x);
         for (int n = 0; n < 3; n++) {
             due("compile() again", x.compile(), DcgEngine.COMPILE_OK);

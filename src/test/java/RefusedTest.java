@@ -16,7 +16,9 @@ public final class RefusedTest extends Check {
 
     // ---- the states ----
 
-    private static final int STATES = 20;
+    private static final int GRAMMARS = 15;
+    private static final int STRINGS = 3;
+    private static final int STATES = GRAMMARS * STRINGS;
 
     private static DcgEngine small(int ruleCap, int tokenCap, int rules) {
         DcgEngine x = new DcgEngine(ruleCap, tokenCap);
@@ -24,11 +26,6 @@ public final class RefusedTest extends Check {
             Build.openRule(x, r % 2 + "x: '1 " + r % 2 + "x |");
             x.endRule();
         }
-        return x;
-    }
-
-    private static DcgEngine withTokens(DcgEngine x, String tokens) {
-        Build.tokens(x, tokens);
         return x;
     }
 
@@ -47,49 +44,49 @@ public final class RefusedTest extends Check {
         return x;
     }
 
-    private static DcgEngine state(int number) {
+    private static DcgEngine grammar(int number) {
         switch (number) {
             case 0:
                 return new DcgEngine(12, 8);
             case 1:
                 return new DcgEngine(0, 0);
             case 2:
-                return withTokens(small(12, 8, 0), "12121212");
-            case 3:
                 return withOpenRule(small(12, 8, 0), "0x:");
+            case 3:
+                return withOpenRule(small(12, 8, 3), "0x: '1 1x");
             case 4:
-                return withTokens(withOpenRule(small(12, 8, 3), "0x: '1 1x"), "112");
+                return withOpenRule(small(4, 8, 3), "1x: '1 1x | | '2 0y");
             case 5:
-                return withOpenRule(small(12, 8, 3), "0x: '1 1x | | '2 0y");
+                return withOpenRule(small(12, 8, 11), "5y: '1 5y");
             case 6:
-                return withOpenRule(small(4, 3, 3), "1x: '1 1x | | '2 0y");
+                return withOpenRule(compiled(Build.grammar("0x: 0x '1")), "1x: '1 '1 '1 '1 '1 '1");
             case 7:
-                return withTokens(small(12, 8, 3), "112");
+                return small(12, 8, 3);
             case 8:
                 return compiled(small(12, 8, 3));
             case 9:
-                return withTokens(compiled(small(12, 8, 3)), "112");
+                return compiled(small(12, 8, 12));
             case 10:
-                return withTokens(compiled(small(12, 8, 12)), "11211111");
+                return compiled(small(1, 1, 1));
             case 11:
-                return withTokens(compiled(small(1, 1, 1)), "1");
+                return compiled(Build.grammar("0x: 1x 0x", "1x:"));
             case 12:
-                return withTokens(compiled(small(5, 4, 4)), "111");
+                return removed(compiled(small(12, 8, 1)));
             case 13:
-                return compiled(withTokens(Build.grammar("0x: 1x 0x", "1x:"), "12"));
-            case 14:
-                return withOpenRule(compiled(Build.grammar("0x: 0x '1")), "1x: '1");
-            case 15:
-                return withTokens(removed(compiled(small(12, 8, 1))), "11");
-            case 16:
-                return withTokens(removed(compiled(small(3, 8, 3))), "11");
-            case 17:
-                return removed(withOpenRule(small(12, 8, 2), "3x: '1 2x |"));
-            case 18:
-                return withTokens(compiled(Build.grammar("50: 'f 41", "41:", "4y: 'e | 'f 'f 'f", "0x: 'f")), "fffe");
+                return removed(withOpenRule(small(3, 4, 2), "3x: '1 2x |"));
             default:
-                return withTokens(withOpenRule(small(12, 8, 11), "5y: '1 5y"), "11111111");
+                return compiled(Build.grammar("50: '2 41", "41:", "4y: '1 | '2 '2 '2", "02: '2"));
         }
+    }
+
+    /** Each grammar with an empty string, a short one and a full one. */
+    private static DcgEngine state(int number) {
+        DcgEngine x = grammar(number / STRINGS);
+        int[] lengths = {0, 1, DcgEngine.MAX_TOKENS};
+        for (int i = 0; i < lengths[number % STRINGS]; i++) {
+            x.addToken(1 + i % 3 / 2);
+        }
+        return x;
     }
 
     // ---- the calls ----
@@ -234,6 +231,24 @@ public final class RefusedTest extends Check {
         readingQueries(calls);
         for (int made : callsThatChangeNothing(calls)) {
             due("states in which it was made", made, STATES);
+        }
+    }
+
+    /** "never change the state": so it does not matter in which order the queries are made. */
+    static void queriesInAnyOrder() {
+        List<Call> calls = new ArrayList<>();
+        derivationQueries(calls);
+        readingQueries(calls);
+        for (int number = 0; number < STATES; number++) {
+            DcgEngine forward = state(number);
+            DcgEngine backward = state(number);
+            int[] last = new int[calls.size()];
+            for (int c = calls.size() - 1; c >= 0; c--) {
+                last[c] = calls.get(c).made.applyAsInt(backward);
+            }
+            for (int c = 0; c < calls.size(); c++) {
+                due("state " + number + ": " + calls.get(c).name, calls.get(c).made.applyAsInt(forward), last[c]);
+            }
         }
     }
 

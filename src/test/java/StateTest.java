@@ -518,6 +518,20 @@ public final class StateTest extends Span {
         cycles(0, "0x: 1x 0x", "1x: 2x 'a", "2x:");
     }
 
+    /** "m is in N whenever some alternative of some rule with head m consists only of NONTERMINAL items whose nonterminals are all in N": each m, and no other. */
+    static void eachMayBeNullable() {
+        for (int m = 0; m <= 5; m++) {
+            for (int m2 = 0; m2 <= 5; m2++) {
+                if (m2 != m) {
+                    String recursive = m2 + "x: " + m + "x " + m2 + "x";
+                    cycles(1 << m2, recursive, m + "x:");
+                    cycles(0, recursive, m + "x: 'a");
+                    cycles(0, recursive);
+                }
+            }
+        }
+    }
+
     /** "an empty alternative qualifies" */
     static void emptyAlternativeIsNullable() {
         cycles(1, "0x: 1x 0x", "1x:");
