@@ -99,9 +99,9 @@ public final class RefusedTest extends Check {
                 calls.add(new Call("beginRule(" + nt + ", " + arg + ")", x -> x.beginRule(nt, arg) ? 1 : 0, a -> a == 0));
             }
         }
-        for (int kind : new int[] {Integer.MIN_VALUE, -1, 0, 1, 2, 3, Integer.MAX_VALUE}) {
-            for (int a : new int[] {-1, 0, 5, 6, 15, 16}) {
-                for (int b : new int[] {-1, 0, 5, 6}) {
+        for (int kind : new int[] {-1, 0, 1, 2, 3}) {
+            for (int a : new int[] {-1, 0, 6, 16}) {
+                for (int b : new int[] {-1, 0, 6}) {
                     String name = "addItem(" + kind + ", " + a + ", " + b + ")";
                     calls.add(new Call(name, x -> x.addItem(kind, a, b) ? 1 : 0, answer -> answer == 0));
                 }
@@ -120,9 +120,9 @@ public final class RefusedTest extends Check {
     }
 
     private static void derivationQueries(List<Call> calls) {
-        for (int nt : new int[] {-1, 0, 6}) {
+        for (int nt : new int[] {0, 6}) {
             query(calls, "answerMask(" + nt + ")", x -> x.answerMask(nt));
-            for (int v : new int[] {-1, 0, 4}) {
+            for (int v : new int[] {0, 4}) {
                 for (int from : new int[] {-1, 0, 9}) {
                     String start = "(" + nt + ", " + v + ", " + from;
                     query(calls, "endMask" + start + ")", x -> x.endMask(nt, v, from));
