@@ -98,7 +98,8 @@ public final class Promise01Test extends Check {
                     due("tokens when cleared", tokensTaken(x), tokenCap);
                     x.removeLastRule();
                     due("rules after a removed one", rulesTaken(x), 1);
-                    while (x.removeLastRule()) {
+                    for (int r = 0; r < ruleCap; r++) {
+                        due("removeLastRule()", x.removeLastRule(), true);
                         due("tokens when rules go", tokensTaken(x), 0);
                     }
                     x.clearTokens();

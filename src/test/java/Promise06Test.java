@@ -112,25 +112,36 @@ public final class Promise06Test extends Check {
 
     /** "Rules and tokens never change." */
     static void rulesAndTokensStay() {
-        DcgEngine x = Build.grammar("0x: 'a 1x | 'b", "1y: | |", "53: 'f 'f 'f 'f 'f 50");
-        Build.tokens(x, "0123456f");
-        int[] rules = rules(x);
-        int[] string = tokens(x);
-        due("compile()", x.compile(), DcgEngine.COMPILE_OK);
-        same("the rules: compile", rules, rules(x));
-        same("the tokens: compile", string, tokens(x));
-        due("no rule is open", x.endRule(), false);
+        for (String tokens : new String[] {"", "0f1", "0123456f"}) {
+            DcgEngine x = Build.grammar("0x: 'a 1x | 'b", "1y: | |", "53: 'f 'f 'f 'f 'f 50");
+            Build.tokens(x, tokens);
+            int[] rules = rules(x);
+            int[] string = tokens(x);
+            due("compile()", x.compile(), DcgEngine.COMPILE_OK);
+            same("the rules: compile", rules, rules(x));
+            same("the tokens: compile", string, tokens(x));
+            due("no rule is open", x.endRule(), false);
+        }
     }
 
     /** "A repeated compile with nothing changed in between gives the same answer as before" */
     static void repeatedCompileAnswersAlike() {
-        DcgEngine x = Build.compiled("0x: 'a 0x |", "1x: 0x");
-        Build.tokens(x, "aabaabaa");
-        int[] before = everything(x);
-        for (int n = 0; n < 3; n++) {
-            due("compile() again", x.compile(), DcgEngine.COMPILE_OK);
-            same("compile() again", before, everything(x));
+        for (String tokens : new String[] {"", "aab", "aabaabaa"}) {
+            DcgEngine x = Build.compiled("0x: 'a 0x |", "1x: 0x");
+            Build.tokens(x, tokens);
+            int[] before = everything(x);
+            for (int n = 0; n < 3; n++) {
+                due("compile() again", x.compile(), DcgEngine.COMPILE_OK);
+                same("compile() again", before, everything(x));
+            }
         }
+    }
+
+    /** "with nothing changed in between": refused calls change nothing, and tokens play no part. */
+    static void compileAfterCallsThatLeaveTheRules() {
+        DcgEngine x = Build.compiled("0x: 'a 0x |", "1x: 0x");
+        Build.tokens(x, "aab");
+        int[] before = everything(x);
         x.beginRule(6, 0);
         x.endRule();
         x.addItem(2, 0, 0);

@@ -38,8 +38,9 @@ public final class Promise13Test extends Check {
     /** "and when there are no rules" */
     static void noRules() {
         DcgEngine emptied = withRules(12);
-        while (emptied.removeLastRule()) {
-            due("removed", emptied.ruleHead(12), -1);
+        for (int r = 11; r >= 0; r--) {
+            due("removeLastRule()", emptied.removeLastRule(), true);
+            due("ruleHead(" + r + ") when removed", emptied.ruleHead(r), -1);
         }
         DcgEngine begunAndRemoved = new DcgEngine(1, 1);
         begunAndRemoved.beginRule(5, 5);

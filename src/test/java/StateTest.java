@@ -290,6 +290,24 @@ public final class StateTest extends Span {
         }
     }
 
+    /** "D is the least relation such that D(m,v,i,j) holds if there are": nothing is left out, though all derive something at once. */
+    static void nothingIsLeftOut() {
+        DcgEngine two = Build.compiled("0x: 1x |", "1x: 'a |");
+        Build.tokens(two, "a");
+        ends(two, 0, 2, 0, 3);
+        String[] down = {"0x: 1x |", "1x: 2x |", "2x: 3x |", "3x: 4x |", "4x: 5x |", "5x: 'a 0x |"};
+        String[] up = {"5x: 'a 0x |", "4x: 5x |", "3x: 4x |", "2x: 3x |", "1x: 2x |", "0x: 1x |"};
+        for (String[] rules : new String[][] {down, up}) {
+            DcgEngine x = Build.compiled(rules);
+            Build.tokens(x, "aaaaaaaa");
+            for (int from = 0; from <= 8; from++) {
+                for (int nt = 0; nt <= 5; nt++) {
+                    ends(x, nt, from % 4, from, 511 >> from << from);
+                }
+            }
+        }
+    }
+
     /** "a rule r whose head is (m, h)": each of them, in whatever order they stand. */
     static void everyRule() {
         String[] down = {"0x: 1x", "1x: 2x", "2x: 3x", "3x: 4x", "4x: 5x", "50: | 'a 01", "51: 'b 00"};
